@@ -129,8 +129,8 @@ public final class MincedCases {
         switch (what) {
             case 0: return mincer.quarrel(now, person, other) ? 1 : 0;
             case 1: return now.apart(person, other);
-            case 2: return mincer.dulling(now, person, other);
-            case 3: return mincer.costing(now, person, other);
+            case 2: return mincer.wear(Laws.DULLS, now, person, other);
+            case 3: return mincer.wear(Laws.COSTS, now, person, other);
             default: return NONE;
         }
     }
@@ -777,10 +777,10 @@ public final class MincedCases {
         private int token;
         private int kind;
         private int fault;
-        private int place;
+        private int faultToken;
         // A fault of what is told counts only where the whole text has none of form.
         private int laterFault;
-        private int laterPlace;
+        private int laterToken;
 
         Reader(Tape tape, Text draft) {
             tokens = new Tokens(tape);
@@ -792,28 +792,35 @@ public final class MincedCases {
             tokens.cut();
             text.clear();
             fault = NO_FAULT;
-            place = NONE;
             laterFault = NO_FAULT;
-            laterPlace = NONE;
             token = 0;
             kind = tokens.kind(0);
             for (int tells = 0; tells <= Tokens.MOST && kind != Tokens.END; tells++) {
                 readTell();
             }
+            checkRoomForTokens();
             return fault == NO_FAULT ? laterFault : fault;
         }
 
-        int faultPlace() {
-            return fault == NO_FAULT ? laterPlace : place;
+        private void checkRoomForTokens() {
+            boolean oneTooMany = tokens.kind(Tokens.MOST) != Tokens.END;
+            if (oneTooMany && (fault == NO_FAULT || faultToken > Tokens.MOST)) {
+                fault = ROOM;
+                faultToken = Tokens.MOST;
+            }
         }
 
-        /** Goes on behind a token that fits; only then it may be one too many, as SYNTAX is the lesser fault. */
+        int faultPlace() {
+            if (fault != NO_FAULT) {
+                return tokens.placeOf(faultToken);
+            }
+            return laterFault != NO_FAULT ? tokens.placeOf(laterToken) : NONE;
+        }
+
         private void take() {
-            if (token >= Tokens.MOST) {
-                fail(ROOM);
-            } else if (fault == NO_FAULT) {
+            if (fault == NO_FAULT) {
                 token++;
-                kind = tokens.kind(token);
+                kind = token < tokens.size ? tokens.kinds[token] : Tokens.END;
             }
         }
 
@@ -829,7 +836,7 @@ public final class MincedCases {
         private void fail(int number) {
             if (fault == NO_FAULT) {
                 fault = number;
-                place = tokens.placeOf(token);
+                faultToken = token;
             }
             kind = Tokens.END;
         }
@@ -837,7 +844,7 @@ public final class MincedCases {
         private void failLater(int number) {
             if (laterFault == NO_FAULT) {
                 laterFault = number;
-                laterPlace = tokens.placeOf(token);
+                laterToken = token;
             }
         }
 
@@ -956,23 +963,27 @@ public final class MincedCases {
             expect(Tokens.SEMICOLON);
         }
 
+        /** An E: parts with + and - between, each of them units with * and / between. */
         private void readSum(int nested) {
-            readProduct(nested);
-            for (int i = 0; i < Tokens.MOST && (kind == Tokens.PLUS || kind == Tokens.MINUS); i++) {
-                int sign = kind;
-                take();
-                readProduct(nested);
-                text.laws.addSign(sign);
-            }
-        }
-
-        private void readProduct(int nested) {
-            readUnit(nested);
-            for (int i = 0; i < Tokens.MOST && (kind == Tokens.TIMES || kind == Tokens.OVER); i++) {
-                int sign = kind;
-                take();
+            int waiting = NONE;
+            boolean ended = false;
+            for (int parts = 0; parts <= Tokens.MOST && !ended; parts++) {
                 readUnit(nested);
-                text.laws.addSign(sign);
+                for (int units = 0; units < Tokens.MOST && (kind == Tokens.TIMES || kind == Tokens.OVER); units++) {
+                    int sign = kind;
+                    take();
+                    readUnit(nested);
+                    text.laws.addSign(sign);
+                }
+                // A + or - joins what is ahead of it with the whole part behind it.
+                if (waiting != NONE) {
+                    text.laws.addSign(waiting);
+                }
+                ended = kind != Tokens.PLUS && kind != Tokens.MINUS;
+                waiting = kind;
+                if (!ended) {
+                    take();
+                }
             }
         }
 
@@ -1289,14 +1300,10 @@ public final class MincedCases {
             return sum;
         }
 
-        int differ(int one, int other, int stuff) {
-            return Math.abs(cases[one * STUFFS + stuff] - cases[other * STUFFS + stuff]);
-        }
-
         int apart(int one, int other) {
             int sum = 0;
             for (int stuff = 0; stuff < STUFFS; stuff++) {
-                sum += differ(one, other, stuff);
+                sum += Math.abs(amount(one, stuff) - amount(other, stuff));
             }
             return sum;
         }
@@ -1305,7 +1312,7 @@ public final class MincedCases {
     /** What the laws of a text make of a state. */
     private static final class Mincer {
         private static final int MOST_DULL = 99;
-        private static final int MOST_COST = 99;
+        private static final int MOST_WEAR = 99;
 
         private final Text text;
         private final int[] vars = new int[Laws.VARS];
@@ -1320,7 +1327,7 @@ public final class MincedCases {
             int most = 0;
             int which = 0;
             for (int stuff = 0; stuff < STUFFS; stuff++) {
-                int differ = s.differ(one, other, stuff);
+                int differ = Math.abs(s.amount(one, stuff) - s.amount(other, stuff));
                 apart += differ;
                 if (differ > most) {
                     most = differ;
@@ -1350,14 +1357,15 @@ public final class MincedCases {
             return text.laws.value(Laws.QUARRELS, vars) > 0;
         }
 
-        int dulling(State s, int one, int other) {
+        /** What DULLS or COSTS tells of two. */
+        int wear(int law, State s, int one, int other) {
             lookAtTurn(s, one, other);
-            return heldTo(MOST_DULL, text.laws.value(Laws.DULLS, vars));
+            return wearOf(law);
         }
 
-        int costing(State s, int one, int other) {
-            lookAtTurn(s, one, other);
-            return heldTo(MOST_COST, text.laws.value(Laws.COSTS, vars));
+        /** As wear, where the two have been looked at already. */
+        private int wearOf(int law) {
+            return heldTo(MOST_WEAR, text.laws.value(law, vars));
         }
 
         int staying(State s, int one, int other, int stuff) {
@@ -1390,8 +1398,9 @@ public final class MincedCases {
         }
 
         void putThrough(State s, int one, int other) {
-            int cost = costing(s, one, other);
-            int duller = dulling(s, one, other);
+            lookAtTurn(s, one, other);
+            int cost = wearOf(Laws.COSTS);
+            int duller = wearOf(Laws.DULLS);
             // The vars still tell how it was ahead: a stuff's own are set anew, the others are not.
             for (int stuff = 0; stuff < STUFFS; stuff++) {
                 int all = allOf(s, one, other, stuff);
