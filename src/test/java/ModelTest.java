@@ -281,7 +281,8 @@ public final class ModelTest {
         int p = person();
         int q = person();
         int s = stuff();
-        int v = amount();
+        // A little more than what somebody has is what turns may bring.
+        int v = below(4) == 0 ? amount() : Math.max(0, x.person(p, s)) + below(8);
         int i = below(20) == 0 ? odd() : below(5) - 1;
         switch (below(3)) {
             case 0 -> due("calm(" + i + ")", x.calm(i), m.calm(i));
