@@ -1565,13 +1565,9 @@ public final class MincedCases {
             return false;
         }
 
-        /** A last turn must touch what is asked for: without it fewer turns would have done. */
+        /** Nobody gets rich by a last turn of others: without it fewer turns would have done. */
         private boolean canMakeSo(int one, int other) {
-            switch (goal) {
-                case RICH: return one == person || other == person;
-                case ALIKE: return one == person || other == person || one == second || other == second;
-                default: return true;
-            }
+            return goal != RICH || one == person || other == person;
         }
 
         private boolean isSo(State s) {
@@ -1629,16 +1625,15 @@ public final class MincedCases {
             return mostPairsFrom(0, everybody());
         }
 
-        /** The most pairs among those who are free, none of them ahead of the person. */
+        /** The most pairs among those from a person on who are free. */
         private int mostPairsFrom(int person, int free) {
             if (person >= text.people) {
                 return 0;
             }
-            int others = free & ~(1 << person);
-            int most = mostPairsFrom(person + 1, others);
+            int most = mostPairsFrom(person + 1, free);
             for (int other = person + 1; isBit(free, person) && other < text.people; other++) {
-                if (isBit(foeBits[person] & others, other)) {
-                    most = Math.max(most, 1 + mostPairsFrom(person + 1, others & ~(1 << other)));
+                if (isBit(foeBits[person] & free, other)) {
+                    most = Math.max(most, 1 + mostPairsFrom(person + 1, free & ~(1 << other)));
                 }
             }
             return most;
@@ -1653,26 +1648,29 @@ public final class MincedCases {
             for (int person = 0; person < text.people; person++) {
                 if (isBit(free, person)) {
                     int partner = firstPartner(person, free);
-                    if (person == asked || partner == asked) {
-                        return person == asked ? partner : person;
+                    if (person == asked) {
+                        return partner;
                     }
-                    free &= ~(1 << person);
-                    free &= partner == NOT_SO ? free : ~(1 << partner);
+                    if (partner == asked) {
+                        return person;
+                    }
+                    if (partner != NOT_SO) {
+                        free &= ~(1 << partner);
+                    }
                 }
             }
             return NOT_SO;
         }
 
-        /** The first choice of a person, ahead of whom all are settled, that still leaves as many pairs. */
+        /** The first choice of a person, all ahead of whom are settled, that still leaves as many pairs. */
         private int firstPartner(int person, int free) {
             int most = mostPairsFrom(person, free);
-            int others = free & ~(1 << person);
-            if (mostPairsFrom(person + 1, others) == most) {
+            if (mostPairsFrom(person + 1, free) == most) {
                 return NOT_SO;
             }
             for (int other = person + 1; other < text.people; other++) {
-                if (isBit(foeBits[person] & others, other)
-                    && 1 + mostPairsFrom(person + 1, others & ~(1 << other)) == most) {
+                boolean canPair = isBit(foeBits[person] & free, other);
+                if (canPair && 1 + mostPairsFrom(person + 1, free & ~(1 << other)) == most) {
                     return other;
                 }
             }

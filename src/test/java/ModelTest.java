@@ -3,7 +3,7 @@ import java.util.Random;
 /** Runs of random calls, whose answers must be those of TownModel; random texts, faulty ones too. */
 public final class ModelTest {
     private static final Checks CHECKS = new Checks();
-    private static final String[] NAMES = {"a", "b", "c", "ann", "bobby", "zzzzzzzz", "zzzzzzzy", "dan"};
+    private static final String[] NAMES = {"a", "b", "aa", "ba", "bobby", "zzzzzzzz", "zzzzzzzy", "z"};
     private static final String[] VARS = {"stuff", "fine", "dull", "rest", "all", "apart", "day", "turns", "most"};
     private static final String[] LAWS = {"stays", "quarrels", "dulls", "costs"};
 

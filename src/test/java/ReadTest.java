@@ -96,6 +96,8 @@ public final class ReadTest {
         fine("person a 0001 2 3 4;");
         fault("person a 00001 2 3 4;", 1, 9);
         fine("person a1 2 3 4;");
+        fine("person zyxz 1 2 3 4;");
+        fine("seed 0000;");
         fine("person a\t1\n2\r3 4\n;\n");
         fault("persona 1 2 3 4;", 1, 0);
         fault("person A 1 2 3 4;", 1, 7);
@@ -204,6 +206,7 @@ public final class ReadTest {
         fault("stays = " + opened(7) + ";", 2, 14);
         fault("stays = (((((((", 2, 14);
         fault("stays = ((((((", 1, 14);
+        fine("stays = if " + opened(6) + " < " + opened(6) + " then " + opened(6) + " else " + opened(6) + ";");
         fine("stays = " + opened(6) + " + " + opened(6) + " * " + opened(6) + ";");
         fine("stays = (((((1 + (2)) * (3)) - (4)) / (5)) + (6));");
         fault("stays = if " + opened(7) + " < 1 then 1 else 1;", 2, 17);
@@ -242,6 +245,15 @@ public final class ReadTest {
         fault(t396 + "stays = if 1 < 1", 2, t396.length() + 13);
         fine("costs=" + "1+".repeat(198) + "1;");
         fault("costs=" + "1+".repeat(199) + "1;", 2, 6 + 398);
+        // Laws are kept to their last token, text by text.
+        String people = "person a 1 1 1 1;person b 2 2 2 2;";
+        MincedCases x = new MincedCases();
+        for (int i = 0; i < 6; i++) {
+            Checks.feed(x, people + "dulls=2;costs=" + "0+".repeat(189) + i + ";");
+            CHECKS.due("read of a long law", x.read(), 0);
+            CHECKS.due("a long law", x.tells(0, 1, 3), i);
+            CHECKS.due("a short one", x.tells(0, 1, 2), 2);
+        }
         fault("(".repeat(2000), 1, 0);
         fault("costs=" + "1+".repeat(997), 2, 6 + 398);
     }
@@ -291,6 +303,11 @@ public final class ReadTest {
         CHECKS.due("place behind a fault", x.place(), 0);
         CHECKS.due("read of an empty tape", x.read(), 0);
         CHECKS.due("place behind none", x.place(), -1);
+        Checks.feed(x, "plate 0;");
+        CHECKS.due("read of a wrong plate", x.read(), 5);
+        Checks.feed(x, "plate 1;");
+        CHECKS.due("read of a right one", x.read(), 0);
+        CHECKS.due("place behind it", x.place(), -1);
     }
 
     private static void aFaultChangesNothing() {
@@ -323,7 +340,9 @@ public final class ReadTest {
         x.put(0, 1);
         x.days(3);
         x.bread(2, 7);
+        x.hold(0);
         x.hold(1);
+        x.hold(2);
         x.tell(0, 0, 3, true);
         Checks.feed(x, "person c 1 2 3 4; person d 1 1 1 1; person e 1 1 1 1;");
         CHECKS.due("read", x.read(), 0);
@@ -334,7 +353,9 @@ public final class ReadTest {
         CHECKS.due("person(0, 3)", x.person(0, 3), 4);
         CHECKS.due("person(0, 6)", x.person(0, 6), 0);
         CHECKS.due("undo", x.undo(), false);
-        CHECKS.due("restore", x.restore(1), false);
+        for (int slot = 0; slot < 3; slot++) {
+            CHECKS.due("restore", x.restore(slot), false);
+        }
         CHECKS.due("suit", x.suit(0, 0), -1);
         x.read();
         CHECKS.due("an empty text: nobody", x.count(0), 0);
@@ -354,7 +375,17 @@ public final class ReadTest {
             CHECKS.due("stays", x.tells(0, 1, 4 + stuff), 0);
         }
         CHECKS.due("plate", x.count(4), 1);
+        // Seed 7 would have a thumb of 15 on day 0, seed 0 has none; no thumb is told of itself.
         CHECKS.due("thumb", x.count(12), 0);
+        Checks.feed(x, "seed 7; thumb 15;");
+        x.read();
+        CHECKS.due("seed 7", x.count(12), 1);
+        Checks.feed(x, "thumb 48;");
+        x.read();
+        CHECKS.due("seed 0", x.count(12), 0);
+        Checks.feed(x, "thumb 49;");
+        x.read();
+        CHECKS.due("seed 0", x.count(12), 1);
     }
 
     private static void theLastOneCounts() {

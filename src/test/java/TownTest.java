@@ -234,9 +234,12 @@ public final class TownTest {
 
     private static int quarrel(String law) {
         MincedCases x = Checks.town("person a 5 20 0 7; person b 3 11 9 7; person c 5 20 0 7; plate 6; dulls = 3; quarrels = " + law + ";");
-        x.bread(1, 50);
+        for (int stuff = 0; stuff < 4; stuff++) {
+            x.bread(stuff, 50);
+        }
         x.put(1, 0);
         x.undo();
+        x.tells(0, 1, 3);
         return x.tells(0, 1, 0);
     }
 

@@ -97,6 +97,20 @@ public final class WouldBeTest {
         Checks.feed(y, "person a 1 0 0 0; person b 0 0 0 0;");
         y.read();
         calms(y, "another text", 1, 1);
+        // Each asked behind another, with the same numbers.
+        MincedCases z = line("quarrels = 1;", 4, 7);
+        for (int i = 0; i < 2; i++) {
+            due("calm", z.calm(NONE), -2);
+            due("rich", z.rich(0, 0, 0, NONE), 0);
+            due("calm", z.calm(NONE), -2);
+            due("rich", z.rich(0, 1, 0, NONE), 0);
+            due("alike", z.alike(0, 1, NONE), 1);
+            due("rich", z.rich(0, 1, 0, NONE), 0);
+            due("rich", z.rich(0, 1, 1, NONE), -2);
+            due("rich", z.rich(0, 0, 1, NONE), 0);
+            due("rich", z.rich(1, 0, 5, NONE), 0);
+            due("rich", z.rich(0, 0, 5, NONE), 1);
+        }
     }
 
     private static void riches(MincedCases x, int person, int stuff, int v, int turns, int... row) {
@@ -336,6 +350,10 @@ public final class WouldBeTest {
         pairs("a path of three", line(NEIGHBOURS, 0, 20, 40), 1, -2, 2, 1);
         pairs("a path of four", line(NEIGHBOURS, 0, 20, 40, 60), 2, 1, 0, 3, 2);
         pairs("a path of five", line(NEIGHBOURS, 0, 20, 40, 60, 80), 2, -2, 2, 1, 4, 3);
+        // 0 40 20 60 80 20: 0 with 2 or 5, 1 with 2, 3 or 5, 3 with 4.
+        pairs("a tangle", line(NEIGHBOURS, 0, 40, 20, 60, 80, 20), 3, 2, 5, 0, 4, 3, 1);
+        // 1 0 3 2 4: without 0 there would be but one pair, and so without 2.
+        pairs("a path not in order", line(NEIGHBOURS, 20, 0, 60, 40, 80), 2, 1, 0, 3, 2, -2);
         pairs("a star of the last", line("", 0, 0, 0, 50), 1, -2, -2, 3, 2);
         pairs("a star of the first", line("", 50, 0, 0, 0), 1, 1, 0, -2, -2);
     }
