@@ -28,6 +28,7 @@ final class TextEdges {
         t.otherTells();
         t.placesOfFaults();
         t.roomForTokens();
+        t.roomForTokensOfEachTell();
         t.roomForSorts();
         t.faultsOfWhatIsTold();
         t.aTextWithAFault();
@@ -401,6 +402,59 @@ final class TextEdges {
             // What is told wrong ahead of it is no fault of form.
             e.fault("plate 0;".repeat(132) + "stays=1;seed 1;", ROOM, full.length());
         });
+    }
+
+    /** Tells of three tokens and of four, so many tokens in all (6 or more), a byte between each two of them. */
+    private static String tokens(int n) {
+        int fours = n % 3;
+        return "plate 1 ; ".repeat((n - 4 * fours) / 3) + "stays = 1 ; ".repeat(fours);
+    }
+
+    private void roomForTokensOfEachTell() {
+        e.edge("I.41", "2 ROOM: a 401st TOKEN; one more of a sort than told", () -> {
+            String[] tells = {"person a 1 1 1 1 ; ", "suit a b 1 1 ; ", "plate 1 ; ", "thumb 1 ; ", "seed 1 ; ", "stays = 1 ; ",
+                "costs = if ( 1 + all ) < 2 * day then 3 / 4 else ( ( 5 ) ) ; "};
+            for (String tell : tells) {
+                int length = tell.split(" ").length;
+                // It ends with the 398th token, then the 399th, .. until it begins with the 403rd.
+                for (int ahead = 398 - length; ahead <= 402; ahead++) {
+                    String text = (tell.startsWith("suit") ? AB.replace(";", " ;") : "");
+                    text += tokens(ahead - (text.isEmpty() ? 0 : 14)) + tell;
+                    String[] all = text.split(" ");
+                    int place = placeIn(text, 400);
+                    e.due("tokens", all.length, ahead + length);
+                    boolean room = all.length <= 400;
+                    e.fault(text, room ? 0 : ROOM, room ? NONE : place);
+                    // Behind it stands more, and then no text has room.
+                    e.fault(text + tokens(30), ROOM, placeIn(text + tokens(30), 400));
+                }
+            }
+        });
+        e.edge("I.42", "SYNTAX: a TOKEN, or what is none, with which no text goes on. 2 ROOM: a 401st TOKEN", () -> {
+            // What was too much in the text ahead is not there in this one.
+            for (String ahead : new String[] {tokens(401), tokens(402), tokens(403), tokens(410), tokens(399) + "#", "#"}) {
+                MincedCases x = new MincedCases();
+                Checks.feed(x, ahead);
+                e.due("a fault of the text ahead", x.read() != 0, true);
+                readsNext(x, tokens(6), 0);
+                Checks.feed(x, ahead);
+                x.read();
+                readsNext(x, tokens(6) + "plate", SYNTAX);
+                e.due("place", x.place(), tokens(6).length() + 5);
+            }
+            MincedCases y = new MincedCases();
+            readsNext(y, tokens(410), ROOM);
+            readsNext(y, tokens(400), 0);
+        });
+    }
+
+    private static int placeIn(String text, int token) {
+        String[] all = text.split(" ");
+        int place = 0;
+        for (int i = 0; i < token && i < all.length; i++) {
+            place += all[i].length() + 1;
+        }
+        return place;
     }
 
     private void roomForSorts() {
