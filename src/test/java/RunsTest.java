@@ -6,7 +6,7 @@ import java.util.HashMap;
 import java.util.Map;
 
 /**
- * Runs written down under src/test/runs, with the answers of a model that another hand wrote from the document alone.
+ * Runs written down under src/test/runs, with the answers of a second model (NOTES.md tells how far that bears).
  * A line is 'new' (the next object), 'text FAULT PLACE ..' (a text that is fed and read; %xx is a byte), or a call's
  * name, its arguments and its answer (a boolean is 1 or 0).
  */
